@@ -24,12 +24,8 @@ public final class MovedStones {
     // Farther than any way can be, and small enough that a road may be added to it.
     private static final int FAR = 1000000;
 
-    private final int[] letters = new int[MOST_LETTERS];
-    private int length;
-    private int faultAt = NONE;
     private final Reader reader = new Reader();
     private Land land = new Land();
-    private Land draft = new Land();
     private final State now = new State();
     private final History history = new History();
     private final Image[] images = {new Image(), new Image()};
@@ -50,25 +46,15 @@ public final class MovedStones {
         if (letter < 0 || letter > MOST_LETTER) {
             return OUTSIDE;
         }
-        if (length >= MOST_LETTERS) {
-            return FULL;
-        }
-        letters[length] = letter;
-        length++;
-        return length;
+        return reader.add(letter) ? reader.length : FULL;
     }
 
     public int march() {
-        int fault = reader.read(letters, length, draft);
-        length = 0;
+        int fault = reader.read();
         if (fault != 0) {
-            faultAt = reader.faultAt;
             return -10 - fault;
         }
-        faultAt = NONE;
-        Land old = land;
-        land = draft;
-        draft = old;
+        land = reader.exchange(land);
         now.begin(land);
         papers.clear();
         history.clear();
@@ -79,7 +65,7 @@ public final class MovedStones {
     }
 
     public int fault() {
-        return faultAt;
+        return reader.faultAt;
     }
 
     public int told(int what) {
@@ -89,7 +75,7 @@ public final class MovedStones {
             case 2: return land.most;
             case 3: return land.roads;
             case 4: return land.treaties;
-            case 5: return length;
+            case 5: return reader.length;
             case 6: return now.year;
             case 7: return rightful();
             case 8: return now.shifted;
@@ -159,9 +145,7 @@ public final class MovedStones {
             return refusal;
         }
         history.push(now);
-        for (int i = 0; i < n; i++) {
-            now.goBy(land);
-        }
+        now.goBy(land, n);
         return now.year;
     }
 
@@ -181,7 +165,7 @@ public final class MovedStones {
         history.push(now);
         for (int i = 0; i < n; i++) {
             driftOnce();
-            now.goBy(land);
+            now.goBy(land, 1);
         }
         return now.year;
     }
@@ -604,21 +588,35 @@ public final class MovedStones {
         }
     }
 
-    /** Reads a text into a land, and knows the first fault. */
+    /** The text; it is read into a land of its own, as a text with a fault must change nothing. */
     private static final class Reader {
-        private int[] letters;
-        private int length;
+        private final int[] letters = new int[MOST_LETTERS];
         private int at;
         private int fault;
         private int number;
         private int numberAt;
-        private Land land;
-        int faultAt;
+        private Land land = new Land();
+        int length;
+        int faultAt = NONE;
 
-        int read(int[] text, int size, Land into) {
-            letters = text;
-            length = Math.min(size, text.length);
-            land = into;
+        boolean add(int letter) {
+            if (length >= MOST_LETTERS) {
+                return false;
+            }
+            letters[length] = letter;
+            length++;
+            return true;
+        }
+
+        /** Hands out the land that was read, and takes another one to read into. */
+        Land exchange(Land old) {
+            Land fresh = land;
+            land = old;
+            return fresh;
+        }
+
+        /** The number of the text's first fault, or 0; the text is empty then. */
+        int read() {
             land.clear();
             at = 0;
             fault = 0;
@@ -629,6 +627,7 @@ public final class MovedStones {
                 readClause();
                 skipBlanks();
             }
+            length = 0;
             return fault;
         }
 
@@ -812,7 +811,8 @@ public final class MovedStones {
             shifted |= 1 << r;
         }
 
-        void goBy(Land land) {
+        /** No stone moves meanwhile, so what these years break is broken in the first of them. */
+        void goBy(Land land, int years) {
             int holding = land.holding(miles);
             for (int t = 0; t < land.treaties; t++) {
                 if ((holding >> t & 1) == 0) {
@@ -820,7 +820,7 @@ public final class MovedStones {
                 }
             }
             shifted = 0;
-            year++;
+            year += years;
         }
 
         private void breakTreaty(int t) {
@@ -1118,12 +1118,10 @@ public final class MovedStones {
         final int[] order = new int[MOST_WANTED];
         int count;
         private final int[] stones = new int[MOST_ROADS];
-        private int[] wanted;
         private int kept;
 
-        boolean plan(Land land, int[] miles, int[] wishes) {
+        boolean plan(Land land, int[] miles, int[] wanted) {
             System.arraycopy(miles, 0, stones, 0, MOST_ROADS);
-            wanted = wishes;
             kept = land.holding(miles);
             int open = 0;
             for (int r = 0; r < land.roads; r++) {
@@ -1132,10 +1130,10 @@ public final class MovedStones {
                 }
             }
             count = Integer.bitCount(open);
-            return place(land, open, 0);
+            return place(land, wanted, open, 0);
         }
 
-        private boolean place(Land land, int open, int night) {
+        private boolean place(Land land, int[] wanted, int open, int night) {
             if (open == 0 || night >= MOST_WANTED) {
                 return open == 0;
             }
@@ -1146,7 +1144,7 @@ public final class MovedStones {
                 int before = stones[r];
                 stones[r] = wanted[r];
                 order[night] = r;
-                if ((kept & ~land.holding(stones)) == 0 && place(land, open & ~(1 << r), night + 1)) {
+                if ((kept & ~land.holding(stones)) == 0 && place(land, wanted, open & ~(1 << r), night + 1)) {
                     return true;
                 }
                 stones[r] = before;
@@ -1160,24 +1158,22 @@ public final class MovedStones {
         int gain;
         int townSet;
         int roadSet;
-        private int[] miles;
         private int start;
 
-        boolean seek(Land land, int[] stones) {
-            miles = stones;
+        boolean seek(Land land, int[] miles) {
             townSet = 0;
             roadSet = 0;
             gain = 0;
             // Each round is found from its least town on.
             for (int town = 0; town < land.towns; town++) {
                 start = town;
-                extend(land, town, 1 << town, 0, 0);
+                extend(land, miles, town, 1 << town, 0, 0);
             }
             return roadSet != 0;
         }
 
         /** Goes on from a town; no town comes twice, so it is never more than MOST_TOWNS deep. */
-        private void extend(Land land, int town, int towns, int roads, int paid) {
+        private void extend(Land land, int[] miles, int town, int towns, int roads, int paid) {
             if (Integer.bitCount(towns) > MOST_TOWNS) {
                 return;
             }
@@ -1187,7 +1183,7 @@ public final class MovedStones {
                 if (other == start && Integer.bitCount(towns) >= 3) {
                     compare(towns, roads | 1 << r, more);
                 } else if (other > start && (towns >> other & 1) == 0) {
-                    extend(land, other, towns | 1 << other, roads | 1 << r, more);
+                    extend(land, miles, other, towns | 1 << other, roads | 1 << r, more);
                 }
             }
         }

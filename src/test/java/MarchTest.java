@@ -170,6 +170,10 @@ public final class MarchTest {
         Check.fault("m3 1 1;r0 1 1 1 0;r1 0 1 1 0;", 4, 21);
         Check.fault("m3 1 1;r0 1 1 1 0;r0 2 1 1 0;t0 0,0 1;", 4, 34);
         Check.fault("m3 1 1;r0 1 1 1 0;r0 2 1 1 0;t0 1, 0 1;", 4, 35);
+        String all = FULL_ROADS + "t0 0,1,2,3,4,5,6,7,8,";
+        Check.fault(all + "8 9;", 4, all.length());
+        Check.fault(all + "9 9;", 2, all.length());
+        Check.fault(all, 1, all.length());
     }
 
     private static void ofTwoTheLeast() {

@@ -54,6 +54,13 @@ public final class PapersTest {
         x.journey(0, 1);
         Check.due("of no ROAD", x.liars(), 0);
         x.tear();
+        for (int i = 0; i < 7; i++) {
+            x.journey(1 << i & 15, new int[] {9, 9, 20, 5, 0, 0, 0}[i]);
+        }
+        Check.due("seven as told", x.liars(), 0);
+        x.journey(32, 31);
+        Check.due("the eighth is otherwise", x.liars(), 32);
+        x.tear();
         x.journey(1, 10);
         x.strike();
         Check.due("MILES of no matter", x.liars(), 1);
@@ -73,6 +80,13 @@ public final class PapersTest {
         x.journey(6, 29);
         Check.due("not in it, as told", x.fits(0, 0), 99);
         Check.due("as told", x.fits(1, 1), 9);
+        x.tear();
+        x.journey(1, 99);
+        Check.due("99 fits", x.fits(0, 0), 1);
+        Check.due("99 is the least", x.fits(0, 1), 99);
+        Check.due("99 may be the lie", x.liars(), 1);
+        x.journey(2, 100);
+        Check.due("100 may not", x.fits(1, 0), 0);
         Check.due("what 2", x.fits(0, 2), Check.OUTSIDE);
         Check.due("what -1", x.fits(0, -1), Check.OUTSIDE);
         Check.due("no ROAD", x.fits(6, 2), Check.UNKNOWN);
@@ -97,6 +111,9 @@ public final class PapersTest {
         for (int i = 4; i <= 15; i++) {
             Check.due("write", x.write(0, 10), i);
         }
+        Check.due("the first of fifteen", x.judge(), 0);
+        x.undo();
+        Check.due("undone: the second", x.judge(), 1);
         Check.due("a sixteenth", x.write(0, 10), Check.FULL);
         Check.due("a sixteenth, MILES 0", x.write(0, 0), Check.OUTSIDE);
         Check.due("told(15)", x.told(15), 15);

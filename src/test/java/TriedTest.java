@@ -186,6 +186,10 @@ public final class TriedTest {
         Check.due("two apart, alike", x.round(0), 1004);
         Check.due("the least SET of TOWNS", x.round(1), 14);
         Check.due("its ROADS", x.round(2), 7);
+        x = Check.of("m6 1 1;r0 1 1 9 0;r1 2 1 9 0;r2 3 1 9 0;r3 4 1 9 0;r4 5 1 9 0;r5 0 1 9 0;r0 3 9 9 0;r1 4 9 9 0;r2 5 9 9 0;");
+        Check.due("a round of all six", x.round(0), 1048);
+        Check.due("all six TOWNS", x.round(1), 63);
+        Check.due("six of nine ROADS", x.round(2), 63);
         x = Check.of("m4 1 9;r2 3 1 1 0;r1 3 1 1 0;r0 2 1 1 0;r0 1 1 1 0;r0 3 1 1 0;r1 2 1 1 0;");
         Check.due("all alike", x.round(1), 7);
         x.shift(4, 1);
