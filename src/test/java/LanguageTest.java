@@ -7,7 +7,7 @@ import java.util.regex.Pattern;
 public final class LanguageTest {
     private static final String[] FORBIDDEN = {
         "\\bthrow\\b", "\\btry\\b", "\\bcatch\\b", "\\bsynchronized\\b", "\\bassert\\b", "->", "::", "\\bpackage\\b", "\\bprotected\\b",
-        "\\bstatic\\s*\\{", "\\bSystem\\.(?!arraycopy\\b)", "\\w+Exact\\b", "\\bThread\\b", "\\bRandom\\b", "\\bdo\\s*\\{",
+        "\\bstatic\\s*\\{", "\\bSystem\\.(?!arraycopy\\b)", "\\w+Exact\\b", "\\bThread\\b", "\\bRandom\\b",
         "\\[\\]\\s*\\[\\]\\s*\\[\\]", "\\bimport\\s+(?!java\\.util\\.Arrays;)"};
 
     public static void main(String[] args) throws Exception {
