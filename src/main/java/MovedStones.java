@@ -642,7 +642,7 @@ public final class MovedStones {
         }
 
         private boolean atFigure() {
-            return letter() >= '0' && letter() <= '9';
+            return at < length && letters[at] >= '0' && letters[at] <= '9';
         }
 
         private void skipBlanks() {

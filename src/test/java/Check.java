@@ -27,6 +27,10 @@ final class Check {
         }
     }
 
+    static void due(String call, boolean got, boolean want) {
+        due(call, got == want);
+    }
+
     static void feed(MovedStones x, String text) {
         for (int i = 0; i < text.length(); i++) {
             due("feed of letter " + i + " of " + text, x.feed(text.charAt(i)), i + 1);

@@ -128,7 +128,7 @@ public final class DoneTest {
         long seed = 5;
         int[] miles = {10, 2};
         x.seed(5);
-        for (int year = 0; year < 300; year++) {
+        for (int year = 0; year < 140; year++) {
             seed = next(seed);
             if (seed / 65536 % 12 == 0) {
                 miles[0] = 9;
@@ -152,7 +152,7 @@ public final class DoneTest {
         MovedStones y = Check.of("m3 2 3;r0 1 9 10 0;r1 2 8 2 1;t0 0 10;");
         y.seed(5);
         for (int i = 1; i <= 4; i++) {
-            Check.due("drift(75)", y.drift(75), 75 * i);
+            Check.due("drift(35)", y.drift(35), 35 * i);
         }
         Check.due("MILES of 0 alike", y.road(0, 3), miles[0]);
         Check.due("THE SEED alike", y.seed(0), (int) seed);
